@@ -225,7 +225,22 @@ public final class PromisesTest {
         due("retract(0)", net.retract(0), 0);
         due("solutions() without constraints", net.solutions(), 16);
         due("retract(0), empty again", net.retract(0), -1);
+        retractMovesEachPlace();
         retractFromFullList();
+    }
+
+    private static void retractMovesEachPlace() {
+        int[] tables = {ONLY_A, ONLY_B, ONLY_C};
+        int[] numbers = {16, 4, 2};
+        for (int p = 0; p < 3; p++) {
+            RelationNet net = new RelationNet(5);
+            net.define(1, tables[p]);
+            net.require(0, 0, 3, 0);
+            net.require(1, 4, 2, 1);
+            net.retract(0);
+            due("least() after a move, place " + p, net.least(), numbers[p]);
+            due("greatest() after a move, place " + p, net.greatest(), numbers[p] + 9);
+        }
     }
 
     private static void retractFromFullList() {
@@ -480,6 +495,8 @@ public final class PromisesTest {
         net.assume(1, 0);
         due("possible(0, 0), no solution", net.possible(0, 0), 0);
         due("possible(1, 0), no solution", net.possible(1, 0), 0);
+        due("possible(1, 0), solution 0 alone", netOf(ALL_ZERO).possible(1, 0), 1);
+        due("possible(1, 1), solution 7 alone", netOf(ALL_ONE).possible(1, 1), 1);
         due("possible(-1, 2)", net.possible(-1, 2), -1);
         due("possible(3, 0)", net.possible(3, 0), -1);
         due("possible(3, -1)", net.possible(3, -1), -1);
@@ -558,12 +575,20 @@ public final class PromisesTest {
         due("size()", net.size(), 1);
         net.assume(0, 1);
         due("entails(3, 0, 1, 2), no solution", net.entails(3, 0, 1, 2), 1);
+        due("entails(1, 0, 1, 2), broken by solution 7 alone", entailsAmongAll(NOT_ALL_ONE), 0);
+        due("entails(1, 0, 1, 2), broken by solution 0 alone", entailsAmongAll(NOT_ALL_ZERO), 0);
         entailsRefusals(net);
         RelationNet full = new RelationNet(2);
         for (int k = 0; k < 20; k++) {
             full.require(0, 0, 0, 0);
         }
         due("entails(0, 1, 1, 1), list full", full.entails(0, 1, 1, 1), 1);
+    }
+
+    private static int entailsAmongAll(int table) {
+        RelationNet net = new RelationNet(3);
+        net.define(1, table);
+        return net.entails(1, 0, 1, 2);
     }
 
     private static void entailsRefusals(RelationNet net) {
