@@ -93,7 +93,8 @@ public final class ModelTest {
             case 17: checks.due(where + "alwaysZero()", net.alwaysZero(), model.alwaysZero()); break;
             case 18: case 19: checks.due(where + "pairs(" + x + ", " + y + ")", net.pairs(x, y), model.pairs(x, y)); break;
             case 20: case 21:
-                checks.due(where + "entails(" + r + ", " + x + ", " + y + ", " + z + ")", net.entails(r, x, y, z), model.entails(r, x, y, z));
+                checks.due(where + "entails(" + r + ", " + x + ", " + y + ", " + z + ")",
+                    net.entails(r, x, y, z), model.entails(r, x, y, z));
                 break;
             default: checks.due(where + "redundant(" + i + ")", net.redundant(i), model.redundant(i)); break;
         }

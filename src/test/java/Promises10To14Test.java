@@ -14,7 +14,8 @@ public final class Promises10To14Test {
         checks.sentence("Promise 10", "otherwise 0", Promises10To14Test::notSatisfiable);
         checks.sentence("Promise 10", "1 if there is a solution, otherwise 0.", Promises10To14Test::satisfiableAfterChanges);
         checks.sentence("Promise 11", "How many solutions there are.", Promises10To14Test::howManySolutions);
-        checks.sentence("Promise 11", "How many solutions there are.", Promises10To14Test::fromNoneToAll);
+        checks.sentence("Promise 11", "How many solutions there are.", Promises10To14Test::noSolutions);
+        checks.sentence("Promise 11", "How many solutions there are.", Promises10To14Test::fromAllToOne);
         checks.sentence("Promise 12", "The least number of a solution", Promises10To14Test::least);
         checks.sentence("Promise 12", "-1 if there is none", Promises10To14Test::leastOfNone);
         checks.sentence("Promise 13", "The greatest number of a solution", Promises10To14Test::greatest);
@@ -79,10 +80,13 @@ public final class Promises10To14Test {
         checks.due("solutions() with one said twice", net.solutions(), 16);
     }
 
-    private static void fromNoneToAll() {
+    private static void noSolutions() {
         for (RelationNet net : Nets.withoutSolution()) {
             checks.due("solutions() without a solution", net.solutions(), 0);
         }
+    }
+
+    private static void fromAllToOne() {
         for (int n = 2; n <= 8; n++) {
             RelationNet net = new RelationNet(n);
             checks.due("solutions(), empty list, n " + n, net.solutions(), 1 << n);
