@@ -294,6 +294,7 @@ public final class RelationNet {
         return belongs(tables[relationAt[i]], triple);
     }
 
+    // Spelled out without valueIn, since calls may go only six deep and this is the sixth.
     private static int tripleIn(int number, int x, int y, int z) {
         return 4 * ((number >> x) & 1) + 2 * ((number >> y) & 1) + ((number >> z) & 1);
     }
