@@ -45,8 +45,11 @@ import javax.tools.SimpleJavaFileObject;
 import javax.tools.ToolProvider;
 
 /**
- * Tells where a source text leaves the rules of LANGUAGE.md, as far as the text alone shows it. In three points it is narrower
- * than the rules, which keeps it short: methods differ in name, loops count in a for, and no local variable names an array.
+ * Tells where a source text leaves the rules of LANGUAGE.md, as far as the text alone shows it.
+ * To stay short it is narrower than the rules: methods differ in name, loops step by one in a for, no local variable names an
+ * array, a constant is a literal with a name of capital letters, and no field's initialiser holds a call.
+ * And it does not see everything: not an array that the constructor makes twice or hands on, nor a loop's bound that a call
+ * inside the loop changes.
  */
 final class Rules extends TreeScanner<Void, Void> {
     private static final int MOST_PARAMETERS = 7;
